@@ -555,11 +555,10 @@ public final class NameRests {
             Arrays.fill(worth, 1);
         }
 
-        /** Copied, not shared, so that what comes in thought leaves the real parish as it is. */
-        void copyFrom(Parish real) {
+        /** Copied, not shared, so that what comes in thought leaves the real parish as it is; names are told anew. */
+        void copyAllButNames(Parish real) {
             System.arraycopy(real.born, 0, born, 0, MOST_PEOPLE);
             System.arraycopy(real.dies, 0, dies, 0, MOST_PEOPLE);
-            System.arraycopy(real.names, 0, names, 0, MOST_PEOPLE);
             System.arraycopy(real.order, 0, order, 0, MOST_PEOPLE);
             people = real.people;
             System.arraycopy(real.one, 0, one, 0, MOST_MEETINGS);
@@ -767,7 +766,7 @@ public final class NameRests {
         }
 
         void begin() {
-            thought.copyFrom(real);
+            thought.copyAllButNames(real);
             forgetNames();
         }
 
