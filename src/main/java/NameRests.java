@@ -555,7 +555,7 @@ public final class NameRests {
             Arrays.fill(worth, 1);
         }
 
-        /** Copied, not shared, so that what comes in thought leaves the real parish as it is; names are told anew. */
+        /** Copied, not shared, so that what comes in thought leaves the real parish as it is. */
         void copyAllButNames(Parish real) {
             System.arraycopy(real.born, 0, born, 0, MOST_PEOPLE);
             System.arraycopy(real.dies, 0, dies, 0, MOST_PEOPLE);
@@ -885,7 +885,7 @@ public final class NameRests {
     /** Seeks the fewest meetings without which a name is free: each chain to a bearer must lose one. */
     private static final class Parting {
         final Parish parish;
-        final int[] wouldHold = new int[MOST_PEOPLE];
+        final int[] holdsFor = new int[MOST_PEOPLE];
         final int[] learntBy = new int[MOST_PEOPLE * MOST_PEOPLE];
         int year;
         int best;
@@ -897,7 +897,7 @@ public final class NameRests {
 
         int fewest(int name, int inYear) {
             year = inYear;
-            if (parish.isFamed(name, year) || !noteWouldHold(name)) {
+            if (parish.isFamed(name, year) || !noteWhoHolds(name)) {
                 return NOT;
             }
             best = 0;
@@ -907,22 +907,22 @@ public final class NameRests {
         }
 
         /** False if one holds its own name: no meeting parts it from itself. */
-        boolean noteWouldHold(int name) {
+        boolean noteWhoHolds(int name) {
             for (int p = 0; p < parish.people; p++) {
-                wouldHold[p] = 0;
+                holdsFor[p] = 0;
                 for (int b = 0; b < parish.people && parish.lives(p, year); b++) {
                     if (parish.isBearer(b, name, year) && parish.wouldHold(p, b, year)) {
-                        wouldHold[p] |= 1 << b;
+                        holdsFor[p] |= 1 << b;
                     }
                 }
-                if ((wouldHold[p] >> p & 1) == 1) {
+                if ((holdsFor[p] >> p & 1) == 1) {
                     return false;
                 }
             }
             return true;
         }
 
-        /** Meetings in kept stay: sets without them were looked at by an earlier branch. */
+        /** Meetings in kept are not removed here: an earlier branch has looked at all sets that have them. */
         void seek(int removed, int kept, int size) {
             int chain = chainWithout(removed);
             if (chain == 0) {
@@ -954,9 +954,11 @@ public final class NameRests {
                 }
             }
             for (int p = 0; p < parish.people; p++) {
-                int heldFor = parish.known[p] & wouldHold[p];
-                if (heldFor != 0) {
-                    return chainOf(p, Integer.numberOfTrailingZeros(heldFor));
+                int heldFor = parish.known[p] & holdsFor[p];
+                for (int b = 0; b < parish.people && heldFor != 0; b++) {
+                    if ((heldFor >> b & 1) == 1) {
+                        return chainOf(p, b);
+                    }
                 }
             }
             return 0;
