@@ -320,6 +320,10 @@ public final class PromisesTest {
         x.name(0, 0);
         due(11, "law 0", tell(x, "0"), 1);
         due(11, "not held", x.held(0, 5, 0), 0);
+        due(11, "law 5", tell(x, "5"), 1);
+        due(11, "held", x.held(0, 5, 0), 1);
+        due(11, "no line counts", tell(x, "0?1"), 1);
+        due(11, "nothing of the earlier law is left", x.held(0, 5, 0), 0);
         due(11, "a fault", tell(x, "1+"), -102);
         due(11, "the law stays", x.held(0, 5, 0), 0);
         due(11, "the tape is empty", x.count(3), 0);
@@ -562,6 +566,9 @@ public final class PromisesTest {
         tie.name(0, 6);
         tie.name(1, 4);
         due(17, "held till the same year: the least", tie.give(2, 1), 4);
+        NameRests early = with(0, 1, 5, 9);
+        early.name(0, 6);
+        due(17, "held in year 0 alone", early.give(1, 1), 6);
     }
 
     private static NameRests fiveBorn() {
@@ -679,6 +686,11 @@ public final class PromisesTest {
         due(20, "both bear it", own.apart(1, 70), NOT);
         tell(own, "!i");
         due(20, "parted", own.apart(1, 70), 1);
+        NameRests often = with(0, 99, 0, 20);
+        often.name(1, 0);
+        for (int m = 0; m < 16; m++) often.meet(1, m);
+        due(20, "the first one holds; all 16 meetings", often.apart(0, 30), 65535);
+        due(20, "by that year", often.apart(0, 20), 65535);
     }
 
     private static void freed() {
