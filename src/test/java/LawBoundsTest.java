@@ -30,6 +30,7 @@ public final class LawBoundsTest {
         towardZero();
         byZero();
         oneOrZero();
+        notZero();
         linesThatCount();
         noneCounts();
         ages();
@@ -371,6 +372,12 @@ public final class LawBoundsTest {
         for (String text : zeros) held(text, 1);
         held("1|1/0", 1);
         held("0&1/0", 0);
+    }
+
+    private static void notZero() {
+        says("Not 0: who knows HOLDS it.");
+        for (String text : new String[] {"1", "-1", "2", "-2", "256", "4096*4096", "4096*4096*16", LEAST, GREATEST}) held(text, 1);
+        for (String text : new String[] {"0", "-0", "0000", "1-1", "4096*4096*4096"}) held(text, 0);
     }
 
     private static void linesThatCount() {

@@ -48,6 +48,8 @@ public final class RefusalsTest {
         taken();
         count();
         readingChangesNothing();
+        numbersOfAnswers();
+        theOneNamedFirst();
         Sentence.everyPromise();
         Sentence.end();
     }
@@ -643,6 +645,51 @@ public final class RefusalsTest {
         looks("element(1, 3)", x -> x.element(1, 3));
         looks("taken(0, 0)", x -> x.taken(0, 0));
         looks("trace(3)", x -> x.trace(3));
+    }
+
+    private static void numbersOfAnswers() {
+        Sentence.says("NOT (-2): as told; FULL (-3); STATE (-5): as told; -11 to -14. VOID is -2000000000.");
+        Sentence.due("BAD", NameRests.BAD, -1);
+        Sentence.due("NOT", NameRests.NOT, -2);
+        Sentence.due("FULL", NameRests.FULL, -3);
+        Sentence.due("STATE", NameRests.STATE, -5);
+        Sentence.due("VOID", NameRests.VOID, -2000000000);
+    }
+
+    /** Calls for which two answers or more are due at once. */
+    private static void theOneNamedFirst() {
+        Sentence.says("Answers, of several the one named first: BAD (-1)");
+        NameRests x = made(FILLED);
+        Sentence.due("person: BAD, FULL", x.person(5, 5), BAD);
+        Sentence.due("person: FULL", x.person(5, 6), FULL);
+        Sentence.due("people: BAD, -12", x.people(0, 0, 13), BAD);
+        Sentence.due("people: -12, 0 with i below 0", x.people(0, -1, 12), OTHER);
+        Sentence.due("meet: BAD, FULL", x.meet(0, 10), BAD);
+        Sentence.due("meet: FULL", x.meet(1, 10), FULL);
+        Sentence.due("feed: BAD, FULL", x.feed(256), BAD);
+        Sentence.due("feed: FULL", x.feed(255), FULL);
+        Sentence.due("give: BAD, STATE", x.give(0, 3), BAD);
+        Sentence.due("give: STATE", x.give(0, 2), STATE);
+        Sentence.due("body: BAD, FULL", x.body(8), BAD);
+        Sentence.due("body: FULL", x.body(7), FULL);
+        Sentence.due("row: BAD, -14", x.row(0, 5, -1), BAD);
+        Sentence.due("row: -14", x.row(0, 4, -1), SIZE);
+        Sentence.due("put: BAD, -13", x.put(6, -1, 1), BAD);
+        Sentence.due("put: -11, -13", x.put(5, -1, 1), NOTHING);
+        Sentence.due("put: -12, -13", x.put(0, -1, 1), OTHER);
+        Sentence.due("put: -13", x.put(1, -1, 1), PLACE);
+        Sentence.due("shift: BAD, -11", x.shift(5, -1, 6, -1, -1), BAD);
+        Sentence.due("shift: -11, -12", x.shift(0, -1, 5, -1, -1), NOTHING);
+        Sentence.due("shift: -11, -13", x.shift(5, -1, 1, -1, -1), NOTHING);
+        Sentence.due("shift: -12, -13", x.shift(0, -1, 1, -1, -1), OTHER);
+        Sentence.due("shift: -12, -13", x.shift(1, -1, 2, -1, -1), OTHER);
+        Sentence.due("shift: -13", x.shift(1, -1, 1, -1, -1), PLACE);
+        Sentence.due("taken: BAD, -11", x.taken(5, 8), BAD);
+        Sentence.due("taken: BAD, -12", x.taken(1, -1), BAD);
+        Sentence.due("apart: BAD, NOT", x.apart(4, 100), BAD);
+        Sentence.due("apart: NOT", x.apart(4, 99), NOT);
+        Sentence.due("held: BAD, NOT", x.held(4, 100, 2), BAD);
+        Sentence.due("held: NOT", x.held(4, 99, 2), NOT);
     }
 
     private static void looks(String told, Call call) {

@@ -50,6 +50,7 @@ public final class TermsBoundsTest {
         never();
         needsTimes();
         needsWrap();
+        needsMeanIsCut();
         needsDrawnDies();
         changesKept();
         changesAgain();
@@ -849,7 +850,17 @@ public final class TermsBoundsTest {
         }
     }
 
-    /** One is born in 99 less k and draws first; it is ahead of the other one's year if it dies early enough. */
+    private static void needsMeanIsCut() {
+        says("the mean (cut), the most");
+        NameRests x = with(0, 100, 50, 60);
+        due("1 name", x.needs(0, 1, 0), 1);
+        due("1 and 2 names: the mean", x.needs(0, 2, 0), 1);
+        due("1 and 2 names: the most", x.needs(0, 2, 1), 2);
+        due("2 names each time: the mean", x.needs(1, 3, 0), 2);
+        due("1 name each time: the most", x.needs(-3, 3, 1), 1);
+    }
+
+    /** The other one is born about the year in which the first one dies, by what it draws first. */
     private static void needsDrawnDies() {
         says("DIES is BORN and 1 and (z >>> 8) % (100 - BORN)");
         for (int born = 0; born < 99; born++) {
