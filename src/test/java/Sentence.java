@@ -34,6 +34,14 @@ final class Sentence {
         if (!document.contains(words)) fail("the document does not say: " + words);
     }
 
+    static String words() {
+        return words;
+    }
+
+    static String document() {
+        return document;
+    }
+
     /** The same for a sentence of a promise's own section. */
     static void promises(int number, String quoted) {
         words = plain(quoted);

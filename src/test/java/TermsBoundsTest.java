@@ -244,7 +244,7 @@ public final class TermsBoundsTest {
     }
 
     private static void worthAndFame() {
-        says("WORTH (0 .. 9; 1 at first)");
+        says("NAMES: WORTH (0 .. 9; 1 at first)");
         for (int v : Sentence.around(0, 9)) {
             NameRests x = new NameRests();
             boolean may = Sentence.within(v, 0, 9);
